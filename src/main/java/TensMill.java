@@ -705,7 +705,7 @@ public final class TensMill {
         void becomeDigits(Text text, int start, int end) {
             int most = (end - start) / BASE_DIGITS + 1;
             makeRoom(most);
-            Arrays.fill(limbs, 0, most, 0);
+            emptyLimbs(most);
             int k = 0;
             for (int i = end - 1; i >= start; i--) {
                 int code = text.codeAt(i);
@@ -736,7 +736,7 @@ public final class TensMill {
                 above = (int) (product - (long) carry * BASE);
             }
             limbs[up] = above;
-            Arrays.fill(limbs, 0, up, 0);
+            emptyLimbs(up);
             count = n + up + 1;
             trim();
         }
@@ -837,7 +837,7 @@ public final class TensMill {
         void becomeProduct(Natural x, Natural y) {
             int n = x.count + y.count;
             makeRoom(n);
-            Arrays.fill(limbs, 0, n, 0);
+            emptyLimbs(n);
             for (int i = 0; i < x.count; i++) {
                 if (x.limbs[i] != 0) {
                     addTimes(y.limbs, y.count, x.limbs[i], i);
@@ -905,7 +905,8 @@ public final class TensMill {
 
         /**
          * The quotient of the three limbs from top down by the divisor's two highest: the true limb,
-         * or up to two above it.
+         * or one above it. The divisor's other limbs make its two highest, a number not below the
+         * base, greater by less than 1, and so a quotient below the base less by less than 1.
          */
         private int guessLimb(int[] divisor, int n, int top) {
             long high = divisor[n - 1];
@@ -927,11 +928,11 @@ public final class TensMill {
             return (int) Math.min(limb, BASE - 1);
         }
 
-        /** Takes away the divisor so many times, and fewer if that is too much; how many times. */
+        /** Takes away the divisor so many times, or once less if that is too much; how many times. */
         private int takeLimb(int[] divisor, int n, int at, int guess) {
             int limb = guess;
             long top = limbs[at + n] - subtractTimes(divisor, 0, n, limb, at);
-            for (int tries = 0; tries < 4 && top < 0; tries++) {
+            if (top < 0) {
                 limb--;
                 top += addBack(divisor, 0, n, at);
             }
@@ -982,6 +983,7 @@ public final class TensMill {
             }
             root.makeRoom(n);
             twice.makeRoom(n);
+            twice.count = 0;
             long head = (long) limbs[count - 1] * BASE + limbs[count - 2];
             long first = rootOf(head);
             long left = head - first * first;
@@ -1045,6 +1047,12 @@ public final class TensMill {
             limbs[n + j] = (int) (top % BASE);
             limbs[n + j + 1] = (int) (top / BASE);
             return limb;
+        }
+
+        private void emptyLimbs(int n) {
+            for (int i = 0; i < n && i < limbs.length; i++) {
+                limbs[i] = 0;
+            }
         }
 
         private void trim() {

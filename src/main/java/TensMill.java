@@ -400,7 +400,7 @@ public final class TensMill {
 
     /**
      * One digit more than a register holds is let through: the other number, which has no more
-     * digits than a register, may bring the sum down by one digit, but by no more than one.
+     * digits than that, may still bring the sum down. With two digits more it no longer can.
      */
     private static boolean align(Natural to, Decimal x, int scale) {
         if (x.u.isZero()) {
@@ -544,7 +544,7 @@ public final class TensMill {
         return keep(d, quotient, x.negative != y.negative, wanted + up - drop);
     }
 
-    /** For x raised by so many digits over y, where the quotient is not 0 or nearly so. */
+    /** For a scale of x not above that of y: it is x raised by so many digits that y divides. */
     private boolean keepWholeOfRaised(int q, int r, Decimal x, Decimal y, long raised) {
         // A remainder that is not 0 leaves the quotient fewer ending zeros than y has digits. So a
         // quotient above 4096 digits and those of y fits only if the division comes out, and then
@@ -582,9 +582,10 @@ public final class TensMill {
         }
         int digits = x.u.digitCount();
         int otherDigits = y.u.digitCount();
-        int order = Long.compare((long) digits - x.scale, (long) otherDigits - y.scale);
-        if (order != 0) {
-            return order;
+        long before = (long) digits - x.scale;
+        long otherBefore = (long) otherDigits - y.scale;
+        if (before != otherBefore) {
+            return before > otherBefore ? 1 : -1;
         }
         int most = Math.max(digits, otherDigits);
         work.raise(x.u, most - digits);

@@ -51,6 +51,7 @@ public final class AnswerBoundariesTest {
         writeOfTheLongest();
         characterAtWhereThereIsNone();
         characterAtOfTheLatest();
+        characterAtOfTheLatestOfTwo();
         Bench.end();
     }
 
@@ -578,6 +579,22 @@ public final class AnswerBoundariesTest {
             Trial.answers("character " + k, codes[k], x -> x.characterAt(k), "12");
         }
         Bench.due("of a new one", -1, new TensMill().characterAt(0));
+    }
+
+    /** Each layout behind each other one. */
+    private static void characterAtOfTheLatestOfTwo() {
+        String[][] all = {
+            {"-0.005", "-0.005", "-0.005", "-0.005"}, {"12E3", "1.2E+4", "12E+3", "12000"}, {"0E-7", "0E-7", "0.0E-6", "0.0000000"},
+            {"-1E-9", "-1E-9", "-1E-9", "-0.000000001"}, {"1E2", "1E+2", "100", "100"}, {"0E2", "0E+2", "0.0E+3", "0"}, {"7", "7", "7", "7"},
+            {"1234567890.5", "1234567890.5", "1234567890.5", "1234567890.5"}
+        };
+        for (int i = 0; i < all.length * 3; i++) {
+            for (int k = 0; k < all.length * 3; k++) {
+                TensMill x = Bench.mill(all[i / 3][0], all[k / 3][0]);
+                Bench.due("first", all[i / 3][1 + i % 3], Bench.written(x, 0, i % 3));
+                Bench.due("then", all[k / 3][1 + k % 3], Bench.written(x, 1, k % 3));
+            }
+        }
     }
 
     /** "of what was laid out latest". */

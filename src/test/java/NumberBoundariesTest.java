@@ -42,6 +42,7 @@ public final class NumberBoundariesTest {
         ratioWithTheLeastScaleNotBelowT();
         ratioExactOfLongOnes();
         ratioRounded();
+        ratioByLongerOnes();
         ratioWithTheScaleNearestToT();
         ratioByZeroIsRefused();
         ratioScaleAsIfItHadNoEnd();
@@ -286,6 +287,14 @@ public final class NumberBoundariesTest {
         Trial.refused("9^4293", x -> x.power(7, 0, 4293), "9");
         Trial.gives("99^2052", "1105..4096..4801@0", 7, x -> x.power(7, 0, 2052), "99");
         Trial.refused("99^2053", x -> x.power(7, 0, 2053), "99");
+        for (String a : new String[] {"3", "-7", "9", "12", "99", "-101", "9x40", "1x100"}) {
+            for (int n : new int[] {8590, 13605, 13606, 13607, 16384, MAX - 1, MAX}) {
+                Trial.refused(a + " to " + n, x -> x.power(7, 0, n), a);
+            }
+        }
+        for (int n : new int[] {2053, 2500, 3000, 3001, 4000, 4095}) {
+            Trial.refused("99 to " + n, x -> x.power(7, 0, n), "99");
+        }
         Trial.gives("a square of 4096 digits", "9999..4096..0001@0", 7, x -> x.power(7, 0, 2), "9x2048");
         Trial.refused("a square of 4098 digits", x -> x.power(7, 0, 2), "9x2049");
         Trial.refused("a square of 4097 digits", x -> x.power(7, 0, 2), "10^2048");
@@ -436,6 +445,18 @@ public final class NumberBoundariesTest {
         Trial.refused("one digit too many", x -> x.ratio(7, 0, 1, 2, 7), "1", "8");
     }
 
+    private static void ratioByLongerOnes() {
+        for (int n = 4; n <= 40; n++) {
+            // 3 / (10^n - 1) is 3 with n - 1 zeros in front and behind, again and again.
+            String third = "3x" + n;
+            String scale = "@" + (n + 3);
+            Trial.gives("1 / " + third, "3000" + scale, 7, x -> x.ratio(7, 0, 1, 4, 1), "1", third);
+            Trial.gives("1 / " + third + ", up", "3001" + scale, 7, x -> x.ratio(7, 0, 1, 4, 0), "1", third);
+            Trial.gives(third + " by itself", "1@0", 7, x -> x.ratio(7, 0, 0, 4, 7), third);
+            Trial.gives("its third", "3@0", 7, x -> x.ratio(7, 0, 1, 4, 7), third, "1x" + n);
+        }
+    }
+
     /** "when a decimal of at most so many digits has just that value: that, with the scale nearest to T". */
     private static void ratioWithTheScaleNearestToT() {
         String[][] dues = {
@@ -548,6 +569,9 @@ public final class NumberBoundariesTest {
         Trial.givesBoth("a far less one", "0@" + MAX, "-7@" + MAX, 7, 6, x -> x.whole(7, 6, 0, 1), "-7" + TOP, "7");
         Trial.givesBoth("by a far greater one", "0@" + MAX, "-7@-1", 7, 6, x -> x.whole(7, 6, 0, 1), "-7E1", "7" + LOW);
         Trial.refused("by one that is too far", x -> x.whole(7, 6, 0, 1), "-7", "7" + LOW);
+        Trial.givesBoth("tens by one as long", "0@-3", "1@-3", 7, 6, x -> x.whole(7, 6, 0, 1), "1E3", "2000");
+        Trial.givesBoth("tens by one as long", "0@-4", "-1@-3", 7, 6, x -> x.whole(7, 6, 0, 1), "-1E3", "1000.1");
+        Trial.givesBoth("one by tens as long", "0@3", "1999@0", 7, 6, x -> x.whole(7, 6, 0, 1), "1999", "2E3");
         Trial.givesBoth("by a longer one", "0@0", "9999..4095..9999@0", 7, 6, x -> x.whole(7, 6, 0, 1), "9x4095", "10^4095");
         Trial.givesBoth("by one a little greater", "0@0", "9999..4096..9998@0", 7, 6, x -> x.take(0, 0, 2) && x.whole(7, 6, 0, 1) && x.add(0, 0, 2), "9x4096", "9x4096", "1");
     }
@@ -582,6 +606,14 @@ public final class NumberBoundariesTest {
         Trial.givesBoth("a long one by a power of two", "9209..4096..0625@0", "0@0", 7, 6, x -> x.whole(7, 6, 0, 1), "1E5860", "2^5860");
         Trial.givesBoth("and with zeros", "9209..4096..0625@-8", "0@-8", 7, 6, x -> x.whole(7, 6, 0, 1), "1E5868", "2^5860");
         Trial.refused("one digit more", x -> x.whole(7, 6, 0, 1), "1E5861", "2^5861");
+        for (int n : new int[] {4097, 4098, 4099, 4100, 5000, 99999}) {
+            Trial.refused("1E" + n + " by 3", x -> x.whole(7, 6, 0, 1), "1E" + n, "3");
+        }
+        // 1 and eight zeros again and again, 456 times a 1; the zeros behind the last are not U's.
+        Trial.givesBoth("4096 digits", "1000..4096..0001@0", "1@0", 7, 6, x -> x.whole(7, 6, 0, 1), "1E4104", "999999999");
+        Trial.givesBoth("4096 digits and one zero", "1000..4096..0001@-1", "1@-1", 7, 6, x -> x.whole(7, 6, 0, 1), "1E4105", "999999999");
+        Trial.givesBoth("4096 digits and zeros", "1000..4096..0001@-8", "1@-8", 7, 6, x -> x.whole(7, 6, 0, 1), "1E4112", "999999999");
+        Trial.refused("4105 digits", x -> x.whole(7, 6, 0, 1), "1E4113", "999999999");
     }
 
     /** "T being a's scale divided by 2, cut towards 0. For a = 0: 0 with scale T". */

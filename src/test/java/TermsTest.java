@@ -59,6 +59,7 @@ public final class TermsTest {
         roundingHalfDown();
         roundingHalfEven();
         roundingRefused();
+        besideHalfWayAndWholeOnes();
         toAScale();
         toAPrecisionWithoutRounding();
         toAPrecisionWithSoManyDigits();
@@ -339,22 +340,47 @@ public final class TermsTest {
     /** The table's column for a rounding, by every call that rounds. */
     private static void rounded(int way) {
         for (String[] row : ROUNDED) {
-            String value = row[0];
-            String due = row[1 + way].equals("no") ? "no" : row[1 + way] + "@0";
-            String what = value + " by rounding " + way;
-            Trial.givesOrNot("rescale, " + what, due, x -> x.rescale(7, 0, 0, way), value);
-            Trial.givesOrNot("divide by 1, " + what, due, x -> x.divide(7, 0, 1, 0, way), value, "1");
-            Trial.givesOrNot("divide by -7, " + what, due, x -> divideTimes(x, 0, way), value, "-7");
-            Trial.givesOrNot("divide by 3E9, " + what, due, x -> divideTimes(x, 0, way), value, "3000000001");
-            int digits = value.replace("-", "").indexOf('.');
-            if (value.replace("-", "").charAt(0) == '0' || row[1 + way].replace("-", "").length() > digits) {
-                continue;
-            }
-            Trial.givesOrNot("round, " + what, due, x -> x.round(7, 0, digits, way), value);
-            Trial.givesOrNot("ratio, " + what, due, x -> x.ratio(7, 0, 1, digits, way), value, "1");
-            Trial.givesOrNot("ratio by -7, " + what, due, x -> ratioTimes(x, digits, way), value, "-7");
-            if (value.charAt(0) != '-') {
-                Trial.givesOrNot("root, " + what, due, x -> rootOfSquare(x, digits, way), value);
+            rounded(row, way);
+        }
+    }
+
+    private static void rounded(String[] row, int way) {
+        String value = row[0];
+        String due = row[1 + way].equals("no") ? "no" : row[1 + way] + "@0";
+        String what = value + " by rounding " + way;
+        Trial.givesOrNot("rescale, " + what, due, x -> x.rescale(7, 0, 0, way), value);
+        Trial.givesOrNot("divide by 1, " + what, due, x -> x.divide(7, 0, 1, 0, way), value, "1");
+        Trial.givesOrNot("divide by -7, " + what, due, x -> divideTimes(x, 0, way), value, "-7");
+        Trial.givesOrNot("divide by 3E9, " + what, due, x -> divideTimes(x, 0, way), value, "3000000001");
+        int digits = value.replace("-", "").indexOf('.');
+        if (value.replace("-", "").charAt(0) == '0' || row[1 + way].replace("-", "").length() > digits) {
+            return;
+        }
+        Trial.givesOrNot("round, " + what, due, x -> x.round(7, 0, digits, way), value);
+        Trial.givesOrNot("ratio, " + what, due, x -> x.ratio(7, 0, 1, digits, way), value, "1");
+        Trial.givesOrNot("ratio by -7, " + what, due, x -> ratioTimes(x, digits, way), value, "-7");
+        Trial.givesOrNot("ratio by 3E9, " + what, due, x -> ratioTimes(x, digits, way), value, "3000000001");
+        if (value.charAt(0) != '-') {
+            Trial.givesOrNot("root, " + what, due, x -> rootOfSquare(x, digits, way), value);
+        }
+    }
+
+    /** However far down the digit stands that makes x lie beside a whole one or beside half way. */
+    private static void besideHalfWayAndWholeOnes() {
+        for (int n = 0; n <= 40; n++) {
+            String zeros = "0".repeat(n);
+            String[][] dues = {
+                {"2." + zeros + "1", "3", "2", "3", "2", "2", "2", "2", "no"},
+                {"2.4" + "9".repeat(n) + "9", "3", "2", "3", "2", "2", "2", "2", "no"},
+                {"2.5" + zeros, "3", "2", "3", "2", "3", "2", "2", "no"},
+                {"2.5" + zeros + "1", "3", "2", "3", "2", "3", "3", "3", "no"},
+                {"2.9" + "9".repeat(n), "3", "2", "3", "2", "3", "3", "3", "no"},
+                {"2." + zeros + "0", "2", "2", "2", "2", "2", "2", "2", "2"}
+            };
+            for (String[] row : dues) {
+                for (int way = 0; way < 8; way++) {
+                    rounded(row, way);
+                }
             }
         }
     }

@@ -1,9 +1,10 @@
 /**
  * One call on a new mill: what it gives, or that it is refused, and that nothing else is new then.
  *
- * <p>Every mill holds a text that was laid out and one that was typed, so that later calls show
- * whether they stand. A trial stays under the 512 calls for which the document speaks, but where a
- * text is too long for that.
+ * <p>Every trial is made twice, with a new mill and with one that has held long numbers before: what
+ * they left behind must not show. Every mill holds a text that was laid out and one that was typed,
+ * so that later calls show whether they stand. A trial stays under the 512 calls for which the
+ * document speaks, but where a text is too long for that.
  */
 final class Trial {
     private static final String LAID = "-1.5";
@@ -23,7 +24,11 @@ final class Trial {
 
     /** The call is done, and of all registers only d is new. */
     static void gives(String what, String due, int d, Call call, String... numbers) {
-        TensMill x = mill(numbers);
+        gives(mill(numbers), what, due, d, call);
+        gives(usedMill(numbers), "used mill, " + what, due, d, call);
+    }
+
+    private static void gives(TensMill x, String what, String due, int d, Call call) {
         String[] before = glances(x);
         Bench.due(what + " is done", true, call.on(x));
         Bench.due(what, due, glance(x, d));
@@ -34,7 +39,12 @@ final class Trial {
     /** The call is done, and of all registers only q and r are new. */
     static void givesBoth(
             String what, String dueQ, String dueR, int q, int r, Call call, String... numbers) {
-        TensMill x = mill(numbers);
+        givesBoth(mill(numbers), what, dueQ, dueR, q, r, call);
+        givesBoth(usedMill(numbers), "used mill, " + what, dueQ, dueR, q, r, call);
+    }
+
+    private static void givesBoth(
+            TensMill x, String what, String dueQ, String dueR, int q, int r, Call call) {
         String[] before = glances(x);
         Bench.due(what + " is done", true, call.on(x));
         before[q] = dueQ;
@@ -43,14 +53,22 @@ final class Trial {
     }
 
     static void refused(String what, Call call, String... numbers) {
-        TensMill x = mill(numbers);
+        refused(mill(numbers), what, call);
+        refused(usedMill(numbers), "used mill, " + what, call);
+    }
+
+    private static void refused(TensMill x, String what, Call call) {
         String[] before = glances(x);
         Bench.due(what + " is done", false, call.on(x));
         stands(what + ", refused", x, before);
     }
 
     static void answers(String what, int due, Question question, String... numbers) {
-        TensMill x = mill(numbers);
+        answers(mill(numbers), what, due, question);
+        answers(usedMill(numbers), "used mill, " + what, due, question);
+    }
+
+    private static void answers(TensMill x, String what, int due, Question question) {
         String[] before = glances(x);
         Bench.due(what, due, question.on(x));
         stands(what, x, before);
@@ -70,7 +88,31 @@ final class Trial {
      * power, both with a scale behind an @ if it is not 0 and a - in front if they are below 0.
      */
     static TensMill mill(String... numbers) {
+        return filled(new TensMill(), numbers);
+    }
+
+    private static TensMill usedMill(String... numbers) {
         TensMill x = new TensMill();
+        putLong(x, 5, "9x100");
+        for (int d = 0; d < 5; d++) {
+            x.copy(d, 5, true);
+        }
+        // All rows that a mill works in are full of nines after these.
+        x.add(6, 5, 5);
+        x.root(7, 5, 90, 0);
+        x.ratio(7, 5, 7, 90, 0);
+        x.rescale(7, 5, -1, 1);
+        x.compare(5, 5);
+        Bench.type(x, "-0.0099E-9");
+        x.read(7);
+        x.write(7, 2);
+        for (int d = 0; d < 8; d++) {
+            x.put(d, 0, 0);
+        }
+        return filled(x, numbers);
+    }
+
+    private static TensMill filled(TensMill x, String... numbers) {
         for (int i = 0; i < numbers.length; i++) {
             if (isLong(numbers[i])) {
                 putLong(x, i, numbers[i]);
